@@ -17,7 +17,7 @@ public final class AgainstPlainModelTest {
     }
 
     public static void main(String[] args) {
-        for (int seed = 0; seed < 120; seed++) {
+        for (int seed = 0; seed < 240; seed++) {
             new AgainstPlainModelTest(seed).run();
         }
         for (int seed = 1000; seed < 1060; seed++) {
@@ -46,11 +46,13 @@ public final class AgainstPlainModelTest {
     }
 
     private void same(String call, long got, long want) {
+        step++;
         DUE.is("seed " + seed + ", call " + step + ": " + call, got, want);
     }
 
     private void run() {
-        for (step = 0; step < 500; step++) {
+        // A step makes at most eight calls, and an object is good for 512.
+        while (step < 500) {
             switch (random.nextInt(8)) {
                 case 0 -> sheetCall();
                 case 1, 2 -> netCall();

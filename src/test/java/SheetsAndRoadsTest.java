@@ -218,6 +218,9 @@ public final class SheetsAndRoadsTest {
         builds(3, 5, 2, 10, 30);
         builds(3, 6, 3, 20, 90);
         builds(3, 32, 31, 32, 496);
+        builds(3, 2, 1, 2, 1);
+        builds(4, 2, 1, 2, 1);
+        builds(4, 32, 1, 32, 496);
         builds(3, 8, 2, 28, 168);
         builds(4, 5, 2, 10, 15);
         builds(4, 7, 2, 21, 105);

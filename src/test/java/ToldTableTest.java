@@ -68,6 +68,11 @@ public final class ToldTableTest {
         DUE.is("16: k", x.entry(1, 3), 20);
         DUE.is("16: k(2)", x.entry(2, 3), 9);
         DUE.is("16: a(1)", x.entry(1, 1), 10);
+        DUE.is("16: a lesser c", x.put(1, 2, 10), 1);
+        DUE.is("16: k(2) with it", x.entry(2, 3), 18);
+        DUE.is("16: a(2) with it", x.entry(2, 1), 10);
+        DUE.is("16: a lesser b", x.put(0, 1, 5), 1);
+        DUE.is("16: k(2) with both", x.entry(2, 3), 10);
     }
 
     private static void take() {
@@ -116,12 +121,17 @@ public final class ToldTableTest {
         breaks(0, 2, 1, 1, 1, 1, 1);
         breaks(4, 4, 1, 1, 3);
         breaks(4, 19, 18, 18, 18, 1, 1, 1, 1);
+        // 100001 posts; no table that keeps laws 1 to 3 has 100000.
+        breaks(4, 20, 18, 17, 11, 7, 1, 1, 1, 1, 18);
         breaks(0, 20, 19, 19, 19, 1, 1, 1, 20);
         breaks(5, 7, 6, 1, 2);
         // POSTS 1 + 3 + 3 + 1 is even, but k(1) a(1) is 3.
         breaks(5, 3, 1, 1, 1, 1, 3);
         breaks(6, 4, 1, 1, 2);
         breaks(6, 6, 1, 1, 3);
+        // Here none is below 0, but some are not whole.
+        breaks(6, 4, 3, 1, 1, 2, 3);
+        breaks(6, 5, 4, 2, 1, 2, 5);
         breaks(7, 4, 2, 1, 4);
         breaks(7, 7, 4, 1, 1);
         breaks(0, 5, 4, 1, 1);

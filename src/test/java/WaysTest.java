@@ -102,6 +102,20 @@ public final class WaysTest {
         DUE.is("11: a ring of 6", x.many(8), 1);
         x.build(5, 1, 4);
         DUE.is("11: a star", x.many(8), 1);
+        DUE.is("11: a star is not even", x.many(6), 0);
+        // Two posts at the way 3 from post 0, but 2 from one another; then the same about post 1.
+        x.net(5);
+        x.road(0, 1, true);
+        x.road(1, 2, true);
+        x.road(2, 3, true);
+        x.road(2, 4, true);
+        DUE.is("11: a fork away from post 0", x.many(8), 0);
+        x.net(5);
+        x.road(1, 3, true);
+        x.road(3, 4, true);
+        x.road(4, 0, true);
+        x.road(4, 2, true);
+        DUE.is("11: a fork away from post 1", x.many(8), 0);
         x.build(2, 3, 2);
         DUE.is("11: words of 2 of 3", x.many(8), 0);
         x.net(2);
