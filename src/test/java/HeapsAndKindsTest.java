@@ -44,16 +44,8 @@ public final class HeapsAndKindsTest {
         refuses(x, "a ring of 32 by 1", 1, LikeNets.NEVER);
         x.build(0, 28, 0);
         heapIs(x, "a ring of 28 by 3", 3, 0, 7, 14, 21);
-        x.net(5);
-        for (int p = 0; p < 4; p++) {
-            x.road(p, p + 1, true);
-        }
-        heapIs(x, "a path of 5 by 1", 1, 0, 3);
-        x.net(6);
-        for (int p = 0; p < 5; p++) {
-            x.road(p, p + 1, true);
-        }
-        heapIs(x, "a path of 6 by 1", 1, 1, 4);
+        heapIs(Nets.path(5), "a path of 5 by 1", 1, 0, 3);
+        heapIs(Nets.path(6), "a path of 6 by 1", 1, 1, 4);
         x.build(2, 2, 3);
         heapIs(x, "words of 3", 1, 0, 7);
         x.build(5, 1, 9);
@@ -134,10 +126,7 @@ public final class HeapsAndKindsTest {
         DUE.is("35: two heaps", x.kinds(), 6);
         x.build(5, 3, 3);
         DUE.is("35: two like heaps", x.kinds(), 3);
-        x.net(32);
-        for (int p = 0; p < 31; p++) {
-            x.road(p, p + 1, true);
-        }
+        x = Nets.path(32);
         // Of a path only the turning about remains.
         DUE.is("35: a path", x.kinds(), 512);
         x.road(0, 2, true);

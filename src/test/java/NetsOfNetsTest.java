@@ -22,15 +22,6 @@ public final class NetsOfNetsTest {
         }
     }
 
-    private static LikeNets path(int n) {
-        LikeNets x = new LikeNets();
-        x.net(n);
-        for (int p = 0; p + 1 < n; p++) {
-            x.road(p, p + 1, true);
-        }
-        return x;
-    }
-
     private static void fold() {
         LikeNets x = new LikeNets();
         DUE.is("25: no posts", x.fold(), LikeNets.STATE);
@@ -47,10 +38,10 @@ public final class NetsOfNetsTest {
         x.build(1, 7, 0);
         DUE.is("25: all joined", x.fold(), 1);
         roadsAre("25: one post", x);
-        x = path(5);
+        x = Nets.path(5);
         DUE.is("25: a path", x.fold(), 4);
         roadsAre("25: a path", x, 0, 1, 1, 2, 2, 3, 3, 0);
-        x = path(6);
+        x = Nets.path(6);
         // Post 0 stays alone as the ends are 5 and 1 then.
         x.road(0, 1, false);
         x.road(0, 3, true);
@@ -75,7 +66,7 @@ public final class NetsOfNetsTest {
         x.build(0, 8, 0);
         DUE.is("26: a ring of 8", x.half(), 4);
         roadsAre("26: ring of 4", x, 0, 1, 1, 2, 2, 3, 3, 0);
-        x = path(6);
+        x = Nets.path(6);
         DUE.is("26: a path", x.half(), 3);
         roadsAre("26: a path", x, 0, 1, 1, 2);
         x.build(5, 2, 4);
@@ -104,7 +95,7 @@ public final class NetsOfNetsTest {
     }
 
     private static void power() {
-        LikeNets x = path(5);
+        LikeNets x = Nets.path(5);
         DUE.is("28: below", x.power(0), LikeNets.NUMBER);
         DUE.is("28: far below", x.power(Integer.MIN_VALUE), LikeNets.NUMBER);
         DUE.is("28: unchanged", x.many(1), 4);
@@ -114,13 +105,13 @@ public final class NetsOfNetsTest {
         DUE.is("28: beyond", x.power(32), 0);
         DUE.is("28: posts stay", x.many(0), 5);
         DUE.is("28: far beyond", x.power(Integer.MAX_VALUE), 0);
-        x = path(32);
+        x = Nets.path(32);
         DUE.is("28: 31", x.power(31), 1);
         roadsAre("28: 31", x, 0, 31);
     }
 
     private static void other() {
-        LikeNets x = path(4);
+        LikeNets x = Nets.path(4);
         DUE.is("29: a path", x.other(), 3);
         roadsAre("29: a path", x, 0, 2, 0, 3, 1, 3);
         x.net(32);

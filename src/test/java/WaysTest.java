@@ -13,17 +13,8 @@ public final class WaysTest {
         DUE.end();
     }
 
-    private static LikeNets path(int n) {
-        LikeNets x = new LikeNets();
-        x.net(n);
-        for (int p = 0; p + 1 < n; p++) {
-            x.road(p, p + 1, true);
-        }
-        return x;
-    }
-
     private static void way() {
-        LikeNets x = path(32);
+        LikeNets x = Nets.path(32);
         DUE.is("10: end to end", x.way(0, 31), 31);
         DUE.is("10: back", x.way(31, 0), 31);
         DUE.is("10: itself", x.way(5, 5), 0);
@@ -67,11 +58,11 @@ public final class WaysTest {
         manyAre(x, "a ring", 32, 32, 1, 1, 16, 32, 1, 1, 1, 1);
         x.build(0, 31, 0);
         manyAre(x, "an odd ring", 31, 31, 1, 1, 15, 31, 1, 0, 0, 1);
-        manyAre(path(32), "a path", 32, 31, 1, 1, 31, 0, 0, 1, 1, 0);
+        manyAre(Nets.path(32), "a path", 32, 31, 1, 1, 31, 0, 0, 1, 1, 0);
     }
 
     private static void rings() {
-        LikeNets x = path(8);
+        LikeNets x = Nets.path(8);
         x.road(0, 2, true);
         DUE.is("11: ring of 3 beside a path", x.many(5), 3);
         x.road(0, 2, false);
@@ -94,7 +85,7 @@ public final class WaysTest {
     }
 
     private static void folded() {
-        DUE.is("11: a path of 3", path(3).many(8), 1);
+        DUE.is("11: a path of 3", Nets.path(3).many(8), 1);
         LikeNets x = new LikeNets();
         x.build(0, 5, 0);
         DUE.is("11: a ring of 5", x.many(8), 0);
@@ -123,7 +114,7 @@ public final class WaysTest {
     }
 
     private static void clash() {
-        LikeNets x = path(5);
+        LikeNets x = Nets.path(5);
         DUE.is("12: what below", x.clash(-1), LikeNets.NUMBER);
         DUE.is("12: what above", x.clash(2), LikeNets.NUMBER);
         DUE.is("12: p", x.clash(0), 1);
@@ -180,7 +171,7 @@ public final class WaysTest {
     }
 
     private static void thirds() {
-        LikeNets x = path(5);
+        LikeNets x = Nets.path(5);
         DUE.is("14: p below", x.thirds(-1, 0, 0, 0), LikeNets.NUMBER);
         DUE.is("14: q above", x.thirds(0, 5, 0, 0), LikeNets.NUMBER);
         DUE.is("14: j below", x.thirds(0, 0, -1, 0), LikeNets.NUMBER);
