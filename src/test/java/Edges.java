@@ -28,6 +28,24 @@ final class Edges {
         due.is(call + " changes nothing", got.equals(Seen.of(made.get())), true);
     }
 
+    /** What is asked of two POSTS. */
+    interface OfTwo {
+        long asked(LikeNets x, int p, int q);
+    }
+
+    /** NUMBER if the one, the other or both are no POST, in nets of few and of many POSTS, all of them joined. */
+    void noPost(String call, OfTwo of) {
+        for (int n : new int[] {0, 1, 2, 31, 32}) {
+            Supplier<LikeNets> made = n == 0 ? busyWithNet(0) : busyWithMaking(1, n, 0);
+            for (int p : outside(0, n - 1)) {
+                String text = call + " with " + p + " of " + n;
+                refused(text + " first", made, x -> of.asked(x, p, 0), LikeNets.NUMBER);
+                refused(text + " second", made, x -> of.asked(x, 0, p), LikeNets.NUMBER);
+                refused(text + " twice", made, x -> of.asked(x, p, p), LikeNets.NUMBER);
+            }
+        }
+    }
+
     /** Sheets of each kind and a missing one, roads, a kept net and a told table, all of them small. */
     static LikeNets busy() {
         LikeNets x = new LikeNets();

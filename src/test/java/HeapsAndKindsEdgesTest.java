@@ -1,5 +1,6 @@
 import java.util.Arrays;
 import java.util.function.Supplier;
+import java.util.stream.IntStream;
 
 /** The boundary cases of promises 33 to 36. */
 public final class HeapsAndKindsEdgesTest {
@@ -115,37 +116,8 @@ public final class HeapsAndKindsEdgesTest {
         heapIs("by the middle ones", x, 1, 8, 4, 7);
     }
 
-    /** Heaps of joined POSTS one after the other; each gives as many CASES as it has POSTS. */
-    private static int heaps(LikeNets x, int from, int... sizes) {
-        int at = from;
-        for (int size : sizes) {
-            for (int p = at; p < at + size; p++) {
-                for (int q = p + 1; q < at + size; q++) {
-                    x.road(p, q, true);
-                }
-            }
-            at += size;
-        }
-        return at;
-    }
-
-    /** At the end a ring of 4, which has no PERFECT HEAP by 1; three CASES show it. */
-    private static LikeNets withRing(int... sizes) {
-        LikeNets x = new LikeNets();
-        int n = 4;
-        for (int size : sizes) {
-            n += size;
-        }
-        x.net(n);
-        int at = heaps(x, 0, sizes);
-        for (int i = 0; i < 4; i++) {
-            x.road(at + i, at + (i + 1) % 4, true);
-        }
-        return x;
-    }
-
     private static LikeNets spent() {
-        return withRing(3, 2, 4, 4, 3, 4, 4);
+        return Nets.heapsAndRing(3, 2, 4, 4, 3, 4, 4);
     }
 
     /**
@@ -154,12 +126,8 @@ public final class HeapsAndKindsEdgesTest {
      */
     private static LikeNets withPath(int... sizes) {
         LikeNets x = new LikeNets();
-        int n = 6;
-        for (int size : sizes) {
-            n += size;
-        }
-        x.net(n);
-        int at = heaps(x, 2, sizes);
+        x.net(IntStream.of(sizes).sum() + 6);
+        int at = Nets.heaps(x, 2, sizes);
         x.road(0, 1, true);
         x.road(1, at, true);
         for (int i = 0; i < 3; i++) {
@@ -174,7 +142,7 @@ public final class HeapsAndKindsEdgesTest {
 
     private static void lastCaseFindsNone() {
         // 2 (1 + 3 (1 + 4 (1 + 4 (1 + 3 (1 + 4 (1 + 4 (1 + 3))))))) CASES are 20000.
-        refused("none by 20000 CASES", () -> withRing(2, 3, 4, 4, 3, 4, 4), 1, NEVER);
+        refused("none by 20000 CASES", () -> Nets.heapsAndRing(2, 3, 4, 4, 3, 4, 4), 1, NEVER);
     }
 
     private static void lastCaseFindsOne() {
@@ -222,14 +190,7 @@ public final class HeapsAndKindsEdgesTest {
     }
 
     private static void kindRefusals() {
-        for (int n : new int[] {0, 1, 2, 31, 32}) {
-            Supplier<LikeNets> made = n == 0 ? Edges.busyWithNet(0) : Edges.busyWithMaking(1, n, 0);
-            for (int p : Edges.outside(0, n - 1)) {
-                EDGES.refused("36: kind(" + p + ", 0) of " + n, made, x -> x.kind(p, 0), NUMBER);
-                EDGES.refused("36: kind(0, " + p + ") of " + n, made, x -> x.kind(0, p), NUMBER);
-                EDGES.refused("36: kind(" + p + ", " + p + ") of " + n, made, x -> x.kind(p, p), NUMBER);
-            }
-        }
+        EDGES.noPost("36: kind", LikeNets::kind);
     }
 
     private static void kindEnds() {

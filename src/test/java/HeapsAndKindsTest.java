@@ -52,35 +52,12 @@ public final class HeapsAndKindsTest {
         heapIs(x, "a star", 1, 0);
     }
 
-    /** Heaps of posts, all of a heap joined, and then a ring of 4, which has no perfect heap by 1. */
-    private static LikeNets heapsAndRing(int... heaps) {
-        int n = 4;
-        for (int size : heaps) {
-            n += size;
-        }
-        LikeNets x = new LikeNets();
-        x.net(n);
-        int from = 0;
-        for (int size : heaps) {
-            for (int p = from; p < from + size; p++) {
-                for (int q = p + 1; q < from + size; q++) {
-                    x.road(p, q, true);
-                }
-            }
-            from += size;
-        }
-        for (int i = 0; i < 4; i++) {
-            x.road(from + i, from + (i + 1) % 4, true);
-        }
-        return x;
-    }
-
     private static void cases() {
         // 2 (1 + 3 (1 + 4 (1 + 4 (1 + 3 (1 + 4 (1 + 4 (1 + 3))))))) is 20000 CASES, with 3 in the ring.
-        refuses(heapsAndRing(2, 3, 4, 4, 3, 4, 4), "20000 cases", 1, LikeNets.NEVER);
-        refuses(heapsAndRing(3, 2, 4, 4, 3, 4, 4), "20001 cases", 1, LikeNets.SPENT);
-        refuses(heapsAndRing(2, 2, 2, 2, 2, 2, 2, 2, 2, 2, 2, 2, 2, 2), "many cases", 1, LikeNets.SPENT);
-        heapIs(heapsAndRing(3, 2, 4, 4, 3, 4, 4), "by 2 there is one", 2, 0, 3, 5, 9, 13, 16, 20, 24);
+        refuses(Nets.heapsAndRing(2, 3, 4, 4, 3, 4, 4), "20000 cases", 1, LikeNets.NEVER);
+        refuses(Nets.heapsAndRing(3, 2, 4, 4, 3, 4, 4), "20001 cases", 1, LikeNets.SPENT);
+        refuses(Nets.heapsAndRing(2, 2, 2, 2, 2, 2, 2, 2, 2, 2, 2, 2, 2, 2), "many cases", 1, LikeNets.SPENT);
+        heapIs(Nets.heapsAndRing(3, 2, 4, 4, 3, 4, 4), "by 2 there is one", 2, 0, 3, 5, 9, 13, 16, 20, 24);
     }
 
     private static void afterChanges() {

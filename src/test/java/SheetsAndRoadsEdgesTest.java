@@ -29,8 +29,8 @@ public final class SheetsAndRoadsEdgesTest {
         loadEnds();
         joined();
         buildKind();
-        buildRings();
-        buildAllJoined();
+        buildByOneNumber(0, 3);
+        buildByOneNumber(1, 1);
         buildWords();
         buildSets();
         buildTwoHeaps();
@@ -176,24 +176,6 @@ public final class SheetsAndRoadsEdgesTest {
         DUE.is("3: is 1 and 31", x.joined(1, 31), true);
     }
 
-    /** Which post a number is once cast; -1 if none of 0 to 30. */
-    private static int cast(int kind, int v) {
-        LikeNets x = new LikeNets();
-        x.net(32);
-        x.sheet(0, kind, 2);
-        x.cell(0, 0, v);
-        x.cell(0, 1, 31);
-        if (x.load(0, 0, 1) != 1) {
-            return -1;
-        }
-        for (int p = 0; p < 31; p++) {
-            if (x.joined(31, p)) {
-                return p;
-            }
-        }
-        return -1;
-    }
-
     private static void cellCasts() {
         int[] numbers = {
             0, 30, -1, 127, 128, 255, 256, 256 + 30, -256, -256 + 30, 32767, 32768, 65535, 65536, 65536 + 30,
@@ -206,7 +188,7 @@ public final class SheetsAndRoadsEdgesTest {
         };
         for (int kind = 0; kind <= 2; kind++) {
             for (int i = 0; i < numbers.length; i++) {
-                DUE.is("3: kind " + kind + " casts " + numbers[i], cast(kind, numbers[i]), due[kind][i]);
+                DUE.is("3: kind " + kind + " casts " + numbers[i], Nets.cast(kind, numbers[i]), due[kind][i]);
             }
         }
     }
@@ -247,22 +229,11 @@ public final class SheetsAndRoadsEdgesTest {
     }
 
     private static void roadRefusals() {
-        int[] sizes = {0, 1, 2, 5, 31, 32};
-        for (int n : sizes) {
-            Supplier<LikeNets> made = Edges.busyWithMaking(1, Math.max(n, 1), 0);
-            if (n == 0) {
-                made = Edges.busyWithNet(0);
-            }
-            for (int p : new int[] {-1, n, n + 1, 32, 33, 64, Edges.LEAST, Edges.GREATEST}) {
-                if (p >= 0 && p < n) {
-                    continue;
-                }
-                String of = " of " + n + " with " + p;
-                EDGES.refused("6: first" + of, made, x -> x.road(p, 0, false), NUMBER);
-                EDGES.refused("6: second" + of, made, x -> x.road(0, p, false), NUMBER);
-                EDGES.refused("6: on" + of, made, x -> x.road(p, Math.max(0, n - 1), true), NUMBER);
-                EDGES.refused("6: both" + of, made, x -> x.road(p, p, true), NUMBER);
-            }
+        EDGES.noPost("6: road on", (x, p, q) -> x.road(p, q, true));
+        EDGES.noPost("6: road off", (x, p, q) -> x.road(p, q, false));
+        for (int p : new int[] {32, 33, 64, -31, -32}) {
+            EDGES.refused("6: a bit beyond " + p, Edges::busy, x -> x.road(1, p, false), NUMBER);
+            EDGES.refused("6: from a bit beyond " + p, Edges::busy, x -> x.road(p, 1, true), NUMBER);
         }
         for (int p : new int[] {0, 4}) {
             EDGES.refused("6: the same on " + p, Edges::busy, x -> x.road(p, p, true), NUMBER);
@@ -417,31 +388,18 @@ public final class SheetsAndRoadsEdgesTest {
         builds(5, 3, 2, 5, 6);
     }
 
-    private static void buildRings() {
-        for (int a : new int[] {2, 1, 0, -1, Edges.LEAST}) {
-            refusesBuild(0, a, 0, NUMBER);
-        }
-        for (int a : new int[] {33, 34, 64, Edges.GREATEST}) {
-            refusesBuild(0, a, 0, FULL);
-        }
+    /** Of kinds 0 and 1 b counts nothing, and there are a POSTS. */
+    private static void buildByOneNumber(int kind, int least) {
         for (int b : new int[] {Edges.LEAST, -1, 0, 33, Edges.GREATEST}) {
-            builds(0, 3, b, 3, 3);
-            builds(0, 4, b, 4, 4);
-            builds(0, 32, b, 32, 32);
-        }
-    }
-
-    private static void buildAllJoined() {
-        for (int a : new int[] {0, -1, Edges.LEAST}) {
-            refusesBuild(1, a, 1, NUMBER);
-        }
-        for (int a : new int[] {33, 34, 64, Edges.GREATEST}) {
-            refusesBuild(1, a, 1, FULL);
-        }
-        for (int b : new int[] {Edges.LEAST, -1, 0, 33, Edges.GREATEST}) {
-            builds(1, 1, b, 1, 0);
-            builds(1, 2, b, 2, 1);
-            builds(1, 32, b, 32, 496);
+            for (int a : new int[] {least - 1, 0, -1, Edges.LEAST}) {
+                refusesBuild(kind, a, b, NUMBER);
+            }
+            for (int a : new int[] {33, 34, 64, Edges.GREATEST}) {
+                refusesBuild(kind, a, b, FULL);
+            }
+            for (int a : new int[] {least, least + 1, 32}) {
+                builds(kind, a, b, a, kind == 0 ? a : a * (a - 1) / 2);
+            }
         }
     }
 

@@ -61,24 +61,6 @@ public final class SheetsAndRoadsTest {
         DUE.is("2: kept", x.load(1, 0, 1), 0);
     }
 
-    /** The post that a number stands for once the sheet's kind has cast it, by a road to post 31 - or -1. */
-    private static int cast(int kind, int v) {
-        LikeNets x = new LikeNets();
-        x.net(32);
-        x.sheet(2, kind, 2);
-        x.cell(2, 0, v);
-        x.cell(2, 1, 31);
-        if (x.load(2, 0, 1) != 1) {
-            return -1;
-        }
-        for (int p = 0; p < 31; p++) {
-            if (x.joined(p, 31)) {
-                return p;
-            }
-        }
-        return -1;
-    }
-
     private static void cell() {
         LikeNets x = new LikeNets();
         DUE.is("3: r below", x.cell(-1, 0, 0), LikeNets.NUMBER);
@@ -89,13 +71,13 @@ public final class SheetsAndRoadsTest {
         DUE.is("3: i below", x.cell(3, -1, 0), LikeNets.NUMBER);
         DUE.is("3: i above", x.cell(3, 2, 0), LikeNets.NUMBER);
         DUE.is("3: i", x.cell(3, 1, 0), 1);
-        DUE.is("3: byte 256 + 5", cast(0, 256 + 5), 5);
-        DUE.is("3: byte -256 + 7", cast(0, -256 + 7), 7);
-        DUE.is("3: byte 128", cast(0, 128), -1);
-        DUE.is("3: short 65536 + 6", cast(1, 65536 + 6), 6);
-        DUE.is("3: short 256 + 5", cast(1, 256 + 5), -1);
-        DUE.is("3: int 65536 + 6", cast(2, 65536 + 6), -1);
-        DUE.is("3: int 9", cast(2, 9), 9);
+        DUE.is("3: byte 256 + 5", Nets.cast(0, 256 + 5), 5);
+        DUE.is("3: byte -256 + 7", Nets.cast(0, -256 + 7), 7);
+        DUE.is("3: byte 128", Nets.cast(0, 128), -1);
+        DUE.is("3: short 65536 + 6", Nets.cast(1, 65536 + 6), 6);
+        DUE.is("3: short 256 + 5", Nets.cast(1, 256 + 5), -1);
+        DUE.is("3: int 65536 + 6", Nets.cast(2, 65536 + 6), -1);
+        DUE.is("3: int 9", Nets.cast(2, 9), 9);
     }
 
     private static void lose() {

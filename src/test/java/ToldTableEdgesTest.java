@@ -41,14 +41,8 @@ public final class ToldTableEdgesTest {
         DUE.end();
     }
 
-    private static LikeNets told(int... numbers) {
-        LikeNets x = new LikeNets();
-        Edges.told(x, numbers);
-        return x;
-    }
-
     private static void breaks(int law, int... numbers) {
-        DUE.is("18: can() of " + Edges.text(numbers), told(numbers).can(), law);
+        DUE.is("18: can() of " + Edges.text(numbers), Nets.told(numbers).can(), law);
     }
 
     private static void tell() {
@@ -65,7 +59,7 @@ public final class ToldTableEdgesTest {
             DUE.is("15: no c more of " + d, x.put(1, d + 1, 1), NUMBER);
             DUE.is("15: LAW or not of " + d, x.can(), d == 1 ? 0 : 2);
         }
-        LikeNets x = told(3, 2, 1, 1);
+        LikeNets x = Nets.told(3, 2, 1, 1);
         DUE.is("15: ahead of it", x.posts(), 10);
         DUE.is("15: the same LENGTH again", x.tell(2), 1);
         DUE.is("15: a LAW breaks at once", x.can(), 2);
@@ -139,7 +133,7 @@ public final class ToldTableEdgesTest {
                 DUE.is("16: LAW of c(1) or a later one" + of, x.can() == 1, i == 0);
             }
         }
-        LikeNets x = told(20, 19, 1, 20);
+        LikeNets x = Nets.told(20, 19, 1, 20);
         DUE.is("16: b(0) is 20", x.entry(0, 2), 20);
         DUE.is("16: c(2) is 20", x.entry(2, 0), 20);
     }
@@ -206,7 +200,7 @@ public final class ToldTableEdgesTest {
                 broken[i] = 0;
                 breaks(1, broken);
             }
-            DUE.is("18: not the first LAW " + Edges.text(table), told(table).can() == 1, false);
+            DUE.is("18: not the first LAW " + Edges.text(table), Nets.told(table).can() == 1, false);
             int[] second = table.clone();
             second[table.length / 2] = 2;
             breaks(1, second);
@@ -242,23 +236,23 @@ public final class ToldTableEdgesTest {
         breaks(3, 5, 1, 2, 1, 2, 2);
         breaks(3, 5, 2, 1, 2, 1, 1, 1, 1);
         breaks(3, 5, 2, 1, 1, 2, 1, 1, 1, 1, 1);
-        DUE.is("18: b(1) is b(0), c(2) is c(1)", told(4, 3, 3, 1, 1, 2).can(), 0);
-        DUE.is("18: b(2) is b(1)", told(5, 2, 2, 1, 1, 1).can() == 3, false);
-        DUE.is("18: c(3) is c(2)", told(5, 2, 2, 1, 2, 2).can() == 3, false);
+        DUE.is("18: b(1) is b(0), c(2) is c(1)", Nets.told(4, 3, 3, 1, 1, 2).can(), 0);
+        DUE.is("18: b(2) is b(1)", Nets.told(5, 2, 2, 1, 1, 1).can() == 3, false);
+        DUE.is("18: c(3) is c(2)", Nets.told(5, 2, 2, 1, 2, 2).can() == 3, false);
     }
 
     /** No table that keeps LAWS 1 to 3 and has whole k(i) has 99999 or 100000 POSTS. */
     private static void fourthLaw() {
         int[] most = {19, 15, 11, 11, 9, 1, 1, 1, 1, 5};
-        DUE.is("18: 99998 POSTS", told(most).can() == 4, false);
-        DUE.is("20: 99998 POSTS", told(most).posts(), 99998);
+        DUE.is("18: 99998 POSTS", Nets.told(most).can() == 4, false);
+        DUE.is("20: 99998 POSTS", Nets.told(most).posts(), 99998);
         int[] more = {20, 18, 17, 11, 7, 1, 1, 1, 1, 18};
         breaks(4, more);
-        DUE.is("20: 100001 POSTS", told(more).posts(), LAW);
+        DUE.is("20: 100001 POSTS", Nets.told(more).posts(), LAW);
         breaks(4, 20, 19, 19, 19, 19, 1, 1, 1, 1, 1);
         breaks(4, 4, 1, 1, 3);
         breaks(4, 4, 2, 1, 3);
-        DUE.is("18: 4 times 3 by 3", told(4, 3, 1, 3).can() == 4, false);
+        DUE.is("18: 4 times 3 by 3", Nets.told(4, 3, 1, 3).can() == 4, false);
         breaks(4, 5, 3, 1, 1, 2, 2);
         // k(2) is 12 by 8, and k(3) would be whole again.
         breaks(4, 12, 4, 4, 1, 5, 8);
@@ -295,7 +289,7 @@ public final class ToldTableEdgesTest {
     }
 
     private static int putAndCan() {
-        LikeNets x = told(3, 2, 1, 0);
+        LikeNets x = Nets.told(3, 2, 1, 0);
         x.put(1, 2, 21);
         x.put(1, 3, 1);
         x.put(2, 2, 1);
@@ -336,12 +330,12 @@ public final class ToldTableEdgesTest {
         }
         int[] layers = {21, 2, 2};
         for (int law = 5; law <= 7; law++) {
-            DUE.is("19: LAW " + law + " does not count", told(BREAKS[law]).entry(2, 3), layers[law - 5]);
+            DUE.is("19: LAW " + law + " does not count", Nets.told(BREAKS[law]).entry(2, 3), layers[law - 5]);
         }
     }
 
     private static void entryEnds() {
-        LikeNets x = told(2, 1, 1, 1, 1, 1, 1, 1, 1, 2);
+        LikeNets x = Nets.told(2, 1, 1, 1, 1, 1, 1, 1, 1, 2);
         int[][] due = {{0, 0, 2, 1}, {1, 0, 1, 2}, {1, 0, 1, 2}, {1, 0, 1, 2}, {1, 0, 1, 2}, {2, 0, 0, 1}};
         for (int i = 0; i <= 5; i++) {
             for (int what = 0; what <= 3; what++) {
@@ -356,10 +350,10 @@ public final class ToldTableEdgesTest {
             EDGES.refused("20: LAW " + law, Edges.busyWithTable(BREAKS[law]), LikeNets::posts, LAW);
         }
         for (int law = 5; law <= 7; law++) {
-            DUE.is("20: LAW " + law + " does not count", told(BREAKS[law]).posts(), due[law - 5]);
+            DUE.is("20: LAW " + law + " does not count", Nets.told(BREAKS[law]).posts(), due[law - 5]);
         }
-        DUE.is("20: the fewest", told(1, 1).posts(), 2);
-        DUE.is("20: 21", told(20, 1).posts(), 21);
+        DUE.is("20: the fewest", Nets.told(1, 1).posts(), 2);
+        DUE.is("20: 21", Nets.told(20, 1).posts(), 21);
     }
 
     private static void thirdRefusals() {
@@ -378,18 +372,18 @@ public final class ToldTableEdgesTest {
             EDGES.refused("21: LAW " + law, made, x -> x.third(0, 0, 0), LAW);
             EDGES.refused("21: LAW " + law + ", the last", made, x -> x.third(2, 2, 2), LAW);
         }
-        DUE.is("21: LAW 7 does not count", told(BREAKS[7]).third(0, 0, 0), 1);
-        DUE.is("21: LAW 7 does not count, the last", told(BREAKS[7]).third(2, 2, 2), 1);
+        DUE.is("21: LAW 7 does not count", Nets.told(BREAKS[7]).third(0, 0, 0), 1);
+        DUE.is("21: LAW 7 does not count, the last", Nets.told(BREAKS[7]).third(2, 2, 2), 1);
     }
 
     private static void thirdEnds() {
-        LikeNets x = told(20, 1);
+        LikeNets x = Nets.told(20, 1);
         int[] due = {1, 0, 0, 20, 0, 1, 1, 19};
         for (int at = 0; at < 8; at++) {
             DUE.is("21: d is 1, " + at, x.third(at / 4, at / 2 % 2, at % 2), due[at]);
         }
         // Words of 5 letters: of two that are all unlike.
-        x = told(5, 4, 3, 2, 1, 1, 2, 3, 4, 5);
+        x = Nets.told(5, 4, 3, 2, 1, 1, 2, 3, 4, 5);
         int[] choose = {1, 5, 10, 10, 5, 1};
         for (int j = 0; j <= 5; j++) {
             DUE.is("21: d is 5, j is " + j, x.third(5, j, 5 - j), choose[j]);
@@ -436,15 +430,15 @@ public final class ToldTableEdgesTest {
 
     private static void rootEnds() {
         rootsAre(new LikeNets(), "a new object", new int[] {1, -1}, new int[] {1, 1});
-        rootsAre(told(20, 1), "21 joined", new int[] {20, -1}, new int[] {1, 20});
-        rootsAre(told(20, 19, 1, 20), "20 and 20", new int[] {20, 0, -20}, new int[] {1, 38, 1});
-        rootsAre(told(2, 1, 1, 1, 1, 1, 1, 1, 1, 2), "a ring of 10",
+        rootsAre(Nets.told(20, 1), "21 joined", new int[] {20, -1}, new int[] {1, 20});
+        rootsAre(Nets.told(20, 19, 1, 20), "20 and 20", new int[] {20, 0, -20}, new int[] {1, 38, 1});
+        rootsAre(Nets.told(2, 1, 1, 1, 1, 1, 1, 1, 1, 2), "a ring of 10",
             new int[] {2, -2}, new int[] {1, 1});
-        rootsAre(told(5, 4, 3, 2, 1, 1, 2, 3, 4, 5), "words of 5",
+        rootsAre(Nets.told(5, 4, 3, 2, 1, 1, 2, 3, 4, 5), "words of 5",
             new int[] {5, 3, 1, -1, -3, -5}, new int[] {1, 5, 10, 10, 5, 1});
-        rootsAre(told(BREAKS[7]), "one that breaks LAW 7", new int[] {4, 0, -3}, new int[] {1, -1, -1});
-        rootsAre(told(2, 1, 1, 1), "a ring of 5", new int[] {2}, new int[] {1});
-        LikeNets x = told(5, 4, 3, 2, 1, 1, 2, 3, 4, 5);
+        rootsAre(Nets.told(BREAKS[7]), "one that breaks LAW 7", new int[] {4, 0, -3}, new int[] {1, -1, -1});
+        rootsAre(Nets.told(2, 1, 1, 1), "a ring of 5", new int[] {2}, new int[] {1});
+        LikeNets x = Nets.told(5, 4, 3, 2, 1, 1, 2, 3, 4, 5);
         DUE.is("22: the last of six", x.root(5, 0), -5);
         Edges.told(x, 20, 19, 1, 20);
         rootsAre(x, "a later table", new int[] {20, 0, -20}, new int[] {1, 38, 1});
@@ -466,12 +460,12 @@ public final class ToldTableEdgesTest {
         }
         int[] due = {7, 4, 4};
         for (int law = 5; law <= 7; law++) {
-            DUE.is("23: LAW " + law + " does not count", told(BREAKS[law]).walks(0, 2), due[law - 5]);
+            DUE.is("23: LAW " + law + " does not count", Nets.told(BREAKS[law]).walks(0, 2), due[law - 5]);
         }
     }
 
     private static void walksEnds() {
-        LikeNets x = told(5, 4, 3, 2, 1, 1, 2, 3, 4, 5);
+        LikeNets x = Nets.told(5, 4, 3, 2, 1, 1, 2, 3, 4, 5);
         DUE.is("23: no ROAD to itself", x.walks(0, 0), 1);
         DUE.is("23: no ROAD to the farthest", x.walks(5, 0), 0);
         DUE.is("23: one too few to the farthest", x.walks(5, 4), 0);
@@ -481,9 +475,9 @@ public final class ToldTableEdgesTest {
         DUE.is("23: two POSTS, to and fro", x.walks(0, 8), 1);
         DUE.is("23: two POSTS, over", x.walks(1, 8), 0);
         // The most there may be: 20 to the power of 8 by two sides of 20 POSTS, or by 21 POSTS.
-        DUE.is("23: the most", told(20, 19, 1, 20).walks(0, 8), 25600000000L / 20);
-        DUE.is("23: the most to the farthest", told(20, 19, 1, 20).walks(2, 8), 25600000000L / 20);
-        DUE.is("23: nearly all", told(20, 1).walks(1, 8), (25600000000L - 1) / 21);
+        DUE.is("23: the most", Nets.told(20, 19, 1, 20).walks(0, 8), 25600000000L / 20);
+        DUE.is("23: the most to the farthest", Nets.told(20, 19, 1, 20).walks(2, 8), 25600000000L / 20);
+        DUE.is("23: nearly all", Nets.told(20, 1).walks(1, 8), (25600000000L - 1) / 21);
     }
 
     private static void bound() {

@@ -16,24 +16,12 @@ public final class ToldTableTest {
         DUE.end();
     }
 
-    /** The first d numbers are b(0) to b(d - 1), the rest c(1) to c(d). */
-    private static LikeNets told(int... numbers) {
-        LikeNets x = new LikeNets();
-        int d = numbers.length / 2;
-        x.tell(d);
-        for (int i = 0; i < d; i++) {
-            x.put(0, i, numbers[i]);
-            x.put(1, i + 1, numbers[d + i]);
-        }
-        return x;
-    }
-
     private static void breaks(int law, int... numbers) {
-        DUE.is("18: can() of " + java.util.Arrays.toString(numbers), told(numbers).can(), law);
+        DUE.is("18: can() of " + java.util.Arrays.toString(numbers), Nets.told(numbers).can(), law);
     }
 
     private static void tell() {
-        LikeNets x = told(3, 2, 1, 1);
+        LikeNets x = Nets.told(3, 2, 1, 1);
         DUE.is("15: below", x.tell(0), LikeNets.NUMBER);
         DUE.is("15: above", x.tell(6), LikeNets.NUMBER);
         DUE.is("15: least", x.tell(Integer.MIN_VALUE), LikeNets.NUMBER);
@@ -50,7 +38,7 @@ public final class ToldTableTest {
     }
 
     private static void put() {
-        LikeNets x = told(3, 2, 1, 1);
+        LikeNets x = Nets.told(3, 2, 1, 1);
         DUE.is("16: what below", x.put(-1, 0, 1), LikeNets.NUMBER);
         DUE.is("16: what above", x.put(2, 1, 1), LikeNets.NUMBER);
         DUE.is("16: v below", x.put(0, 0, -1), LikeNets.NUMBER);
@@ -76,7 +64,7 @@ public final class ToldTableTest {
     }
 
     private static void take() {
-        LikeNets x = told(3, 2, 1, 1);
+        LikeNets x = Nets.told(3, 2, 1, 1);
         DUE.is("17: no posts", x.take(), LikeNets.STATE);
         x.net(1);
         DUE.is("17: FAR is 0", x.take(), LikeNets.STATE);
@@ -145,7 +133,7 @@ public final class ToldTableTest {
     }
 
     private static void entry() {
-        LikeNets x = told(4, 3, 3, 1, 1, 2);
+        LikeNets x = Nets.told(4, 3, 3, 1, 1, 2);
         int[][] due = {{0, 0, 4, 1}, {1, 0, 3, 4}, {1, 0, 3, 12}, {2, 2, 0, 18}};
         for (int i = 0; i < due.length; i++) {
             for (int what = 0; what < 4; what++) {
@@ -156,26 +144,26 @@ public final class ToldTableTest {
         DUE.is("19: what above", x.entry(0, 4), LikeNets.NUMBER);
         DUE.is("19: i below", x.entry(-1, 0), LikeNets.NUMBER);
         DUE.is("19: i above", x.entry(4, 0), LikeNets.NUMBER);
-        x = told(4, 1, 1, 3);
+        x = Nets.told(4, 1, 1, 3);
         DUE.is("19: law 4", x.entry(0, 0), LikeNets.LAW);
         DUE.is("19: number ahead of law", x.entry(3, 0), LikeNets.NUMBER);
-        x = told(7, 6, 1, 2);
+        x = Nets.told(7, 6, 1, 2);
         DUE.is("19: law 5 does not count", x.entry(2, 3), 21);
     }
 
     private static void posts() {
-        DUE.is("20: law 1", told(0, 1).posts(), LikeNets.LAW);
-        DUE.is("20: law 2", told(3, 3, 1, 1).posts(), LikeNets.LAW);
-        DUE.is("20: law 3", told(4, 1, 1, 1, 3, 2).posts(), LikeNets.LAW);
-        DUE.is("20: law 4", told(4, 1, 1, 3).posts(), LikeNets.LAW);
-        DUE.is("20: law 5", told(7, 6, 1, 2).posts(), 29);
-        DUE.is("20: 35", told(4, 3, 3, 1, 1, 2).posts(), 35);
-        DUE.is("20: near the most", told(18, 17, 17, 17, 1, 1, 1, 1).posts(), 1 + 18 + 306 + 5202 + 88434);
-        DUE.is("20: above the most", told(19, 18, 18, 18, 1, 1, 1, 1).posts(), LikeNets.LAW);
+        DUE.is("20: law 1", Nets.told(0, 1).posts(), LikeNets.LAW);
+        DUE.is("20: law 2", Nets.told(3, 3, 1, 1).posts(), LikeNets.LAW);
+        DUE.is("20: law 3", Nets.told(4, 1, 1, 1, 3, 2).posts(), LikeNets.LAW);
+        DUE.is("20: law 4", Nets.told(4, 1, 1, 3).posts(), LikeNets.LAW);
+        DUE.is("20: law 5", Nets.told(7, 6, 1, 2).posts(), 29);
+        DUE.is("20: 35", Nets.told(4, 3, 3, 1, 1, 2).posts(), 35);
+        DUE.is("20: near the most", Nets.told(18, 17, 17, 17, 1, 1, 1, 1).posts(), 1 + 18 + 306 + 5202 + 88434);
+        DUE.is("20: above the most", Nets.told(19, 18, 18, 18, 1, 1, 1, 1).posts(), LikeNets.LAW);
     }
 
     private static void third() {
-        LikeNets x = told(3, 2, 1, 1);
+        LikeNets x = Nets.told(3, 2, 1, 1);
         DUE.is("21: i below", x.third(-1, 0, 0), LikeNets.NUMBER);
         DUE.is("21: j above", x.third(0, 3, 0), LikeNets.NUMBER);
         DUE.is("21: l above", x.third(0, 0, 3), LikeNets.NUMBER);
@@ -191,14 +179,14 @@ public final class ToldTableTest {
                 }
             }
         }
-        DUE.is("21: law 5", told(7, 6, 1, 2).third(0, 0, 0), LikeNets.LAW);
-        DUE.is("21: law 6", told(4, 1, 1, 2).third(0, 0, 0), LikeNets.LAW);
-        DUE.is("21: number ahead of law", told(4, 1, 1, 2).third(0, 0, 3), LikeNets.NUMBER);
-        DUE.is("21: law 7 does not count", told(4, 2, 1, 4).third(1, 1, 0), 1);
+        DUE.is("21: law 5", Nets.told(7, 6, 1, 2).third(0, 0, 0), LikeNets.LAW);
+        DUE.is("21: law 6", Nets.told(4, 1, 1, 2).third(0, 0, 0), LikeNets.LAW);
+        DUE.is("21: number ahead of law", Nets.told(4, 1, 1, 2).third(0, 0, 3), LikeNets.NUMBER);
+        DUE.is("21: law 7 does not count", Nets.told(4, 2, 1, 4).third(1, 1, 0), 1);
     }
 
     private static void root() {
-        LikeNets x = told(4, 3, 2, 1, 1, 2, 3, 4);
+        LikeNets x = Nets.told(4, 3, 2, 1, 1, 2, 3, 4);
         int[] roots = {4, 2, 0, -2, -4};
         int[] times = {1, 4, 6, 4, 1};
         for (int i = 0; i < 5; i++) {
@@ -209,29 +197,29 @@ public final class ToldTableTest {
         DUE.is("22: above", x.root(5, 1), -1002);
         DUE.is("22: what below", x.root(0, -1), -1000);
         DUE.is("22: what above", x.root(9, 2), -1000);
-        DUE.is("22: law", told(4, 1, 1, 2).root(0, 0), -1001);
-        DUE.is("22: what ahead of law", told(4, 1, 1, 2).root(0, 2), -1000);
-        DUE.is("22: law ahead of none", told(4, 1, 1, 2).root(9, 0), -1001);
-        x = told(7, 6, 1, 1);
+        DUE.is("22: law", Nets.told(4, 1, 1, 2).root(0, 0), -1001);
+        DUE.is("22: what ahead of law", Nets.told(4, 1, 1, 2).root(0, 2), -1000);
+        DUE.is("22: law ahead of none", Nets.told(4, 1, 1, 2).root(9, 0), -1001);
+        x = Nets.told(7, 6, 1, 1);
         DUE.is("22: 7", x.root(0, 0), 7);
         DUE.is("22: 2", x.root(1, 0), 2);
         DUE.is("22: 2 counts", x.root(1, 1), 28);
         DUE.is("22: -3", x.root(2, 0), -3);
         DUE.is("22: -3 counts", x.root(2, 1), 21);
         // Law 7 alone is broken: 7 posts divided by 3 / 2 for 0, and by 21 / 4 for -3.
-        x = told(4, 2, 1, 4);
+        x = Nets.told(4, 2, 1, 4);
         DUE.is("22: 4 counts", x.root(0, 1), 1);
         DUE.is("22: 0", x.root(1, 0), 0);
         DUE.is("22: 0 counts no whole times", x.root(1, 1), -1);
         DUE.is("22: -3, too", x.root(2, 0), -3);
         DUE.is("22: -3 counts no whole times", x.root(2, 1), -1);
-        x = told(5, 4, 1, 1);
+        x = Nets.told(5, 4, 1, 1);
         DUE.is("22: 5", x.root(0, 0), 5);
         DUE.is("22: the others are not whole", x.root(1, 0), -1002);
     }
 
     private static void walks() {
-        LikeNets x = told(3, 2, 1, 1);
+        LikeNets x = Nets.told(3, 2, 1, 1);
         DUE.is("23: i below", x.walks(-1, 0), LikeNets.NUMBER);
         DUE.is("23: i above", x.walks(3, 0), LikeNets.NUMBER);
         DUE.is("23: m below", x.walks(0, -1), LikeNets.NUMBER);
@@ -242,10 +230,10 @@ public final class ToldTableTest {
         DUE.is("23: to and fro", x.walks(0, 2), 3);
         DUE.is("23: 8", x.walks(0, 8), 759);
         DUE.is("23: 5", x.walks(2, 5), 22);
-        DUE.is("23: law 4", told(4, 1, 1, 3).walks(0, 0), LikeNets.LAW);
-        DUE.is("23: number ahead of law", told(4, 1, 1, 3).walks(0, 9), LikeNets.NUMBER);
-        DUE.is("23: law 5 does not count", told(7, 6, 1, 2).walks(0, 2), 7);
-        x = told(20, 1);
+        DUE.is("23: law 4", Nets.told(4, 1, 1, 3).walks(0, 0), LikeNets.LAW);
+        DUE.is("23: number ahead of law", Nets.told(4, 1, 1, 3).walks(0, 9), LikeNets.NUMBER);
+        DUE.is("23: law 5 does not count", Nets.told(7, 6, 1, 2).walks(0, 2), 7);
+        x = Nets.told(20, 1);
         // (20^8 + 20) / 21 is the count of closed walks with all of 21 posts joined.
         DUE.is("23: beyond ints", x.walks(0, 8), (25600000000L + 20) / 21);
     }

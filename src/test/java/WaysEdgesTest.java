@@ -7,7 +7,6 @@ public final class WaysEdgesTest {
     private static final int NUMBER = LikeNets.NUMBER;
     private static final int STATE = LikeNets.STATE;
     private static final int NEVER = LikeNets.NEVER;
-    private static final int[] SIZES = {0, 1, 2, 31, 32};
 
     public static void main(String[] args) {
         wayRefusals();
@@ -33,14 +32,7 @@ public final class WaysEdgesTest {
     }
 
     private static void wayRefusals() {
-        for (int n : SIZES) {
-            Supplier<LikeNets> made = n == 0 ? Edges.busyWithNet(0) : Edges.busyWithMaking(1, n, 0);
-            for (int p : Edges.outside(0, n - 1)) {
-                EDGES.refused("10: way(" + p + ", 0) of " + n, made, x -> x.way(p, 0), NUMBER);
-                EDGES.refused("10: way(0, " + p + ") of " + n, made, x -> x.way(0, p), NUMBER);
-                EDGES.refused("10: way(" + p + ", " + p + ") of " + n, made, x -> x.way(p, p), NUMBER);
-            }
-        }
+        EDGES.noPost("10: way", LikeNets::way);
     }
 
     private static void wayOfNone() {
@@ -294,13 +286,8 @@ public final class WaysEdgesTest {
     }
 
     private static void thirdsRefusals() {
-        for (int n : SIZES) {
-            Supplier<LikeNets> made = n == 0 ? Edges.busyWithNet(0) : Edges.busyWithMaking(1, n, 0);
-            for (int p : Edges.outside(0, n - 1)) {
-                EDGES.refused("14: p is " + p + " of " + n, made, x -> x.thirds(p, 0, 0, 0), NUMBER);
-                EDGES.refused("14: q is " + p + " of " + n, made, x -> x.thirds(0, p, 0, 0), NUMBER);
-            }
-        }
+        EDGES.noPost("14: thirds at 0", (x, p, q) -> x.thirds(p, q, 0, 0));
+        EDGES.noPost("14: thirds at 1", (x, p, q) -> x.thirds(p, q, 1, 1));
         for (int below : new int[] {-1, -2, -31, -32, Edges.LEAST}) {
             EDGES.refused("14: j is " + below, Edges::busy, x -> x.thirds(1, 2, below, 0), NUMBER);
             EDGES.refused("14: l is " + below, Edges::busy, x -> x.thirds(1, 2, 0, below), NUMBER);
