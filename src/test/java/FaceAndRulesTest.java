@@ -12,6 +12,7 @@ import java.util.regex.Pattern;
 /** The public face of the document, and those rules of LANGUAGE.md that can be seen in the text. */
 public final class FaceAndRulesTest {
     private static final Due DUE = new Due("FaceAndRulesTest");
+    private static final Path SOURCE = Path.of("src/main/java/LikeNets.java");
     private static final String[] FACE = {
         "int sheet(int,int,int)", "int cell(int,int,int)", "int lose(int)", "int net(int)",
         "int road(int,int,boolean)", "int load(int,int,int)", "boolean joined(int,int)", "int build(int,int,int)",
@@ -20,6 +21,11 @@ public final class FaceAndRulesTest {
         "int third(int,int,int)", "int root(int,int)", "long walks(int,int)", "long bound(int,int)",
         "int fold()", "int half()", "int twice()", "int power(int)", "int other()", "int lines()", "int keep()",
         "int back()", "int perfect(int)", "int heap(int,int)", "int kinds()", "int kind(int,int)",
+    };
+    /** The call ahead of which each heading stands. */
+    private static final String[][] HEADINGS = {
+        {"sheet", "sheets and roads"}, {"way", "ways"}, {"tell", "the told table"}, {"fold", "nets made of nets"},
+        {"perfect", "heaps and kinds"},
     };
     private static final String[] CONSTANTS = {
         "NUMBER", "FULL", "MISSING", "SIZE", "STATE", "LAW", "SPENT", "NEVER",
@@ -35,6 +41,8 @@ public final class FaceAndRulesTest {
         fields();
         nested();
         text();
+        order();
+        lengths();
         room();
         DUE.end();
     }
@@ -47,12 +55,21 @@ public final class FaceAndRulesTest {
         return text.append(")").toString();
     }
 
+    private static String name(String call) {
+        return call.substring(call.indexOf(' ') + 1, call.indexOf('('));
+    }
+
+    private static Set<String> names() {
+        Set<String> names = new TreeSet<>();
+        for (String call : FACE) {
+            names.add(name(call));
+        }
+        return names;
+    }
+
     private static void methods() {
         Set<String> due = new TreeSet<>(Set.of(FACE));
-        Set<String> names = new TreeSet<>();
-        for (String call : due) {
-            names.add(call.substring(call.indexOf(' ') + 1, call.indexOf('(')));
-        }
+        Set<String> names = names();
         for (Method method : LikeNets.class.getDeclaredMethods()) {
             boolean isPrivate = Modifier.isPrivate(method.getModifiers());
             boolean isFace = Modifier.isPublic(method.getModifiers()) && due.remove(signature(method));
@@ -81,10 +98,7 @@ public final class FaceAndRulesTest {
     }
 
     private static void nested() {
-        Set<String> names = new TreeSet<>();
-        for (String call : FACE) {
-            names.add(call.substring(call.indexOf(' ') + 1, call.indexOf('(')));
-        }
+        Set<String> names = names();
         DUE.is("at most twelve classes", LikeNets.class.getDeclaredClasses().length <= 11, true);
         for (Class<?> inside : LikeNets.class.getDeclaredClasses()) {
             DUE.is("static " + inside, Modifier.isStatic(inside.getModifiers()), true);
@@ -97,7 +111,7 @@ public final class FaceAndRulesTest {
     }
 
     private static void text() throws IOException {
-        String text = Files.readString(Path.of("src/main/java/LikeNets.java"));
+        String text = Files.readString(SOURCE);
         String code = text.replaceAll("(?s)/\\*.*?\\*/", "").replaceAll("//[^\n]*", "");
         for (String pattern : NOT_IN_THE_TEXT) {
             DUE.is("without " + pattern, Pattern.compile(pattern).matcher(code).find(), false);
@@ -107,12 +121,50 @@ public final class FaceAndRulesTest {
         DUE.is("plain characters", text.chars().allMatch(c -> c < 128), true);
     }
 
+    /** The calls stand in the order of the document, below the headings that it tells. */
+    private static void order() throws IOException {
+        String text = Files.readString(SOURCE);
+        int at = 0;
+        for (String call : FACE) {
+            for (String[] heading : HEADINGS) {
+                if (heading[0].equals(name(call))) {
+                    at = text.indexOf("// ---- " + heading[1] + "\n", Math.max(at, 0));
+                    DUE.is("heading " + heading[1], at >= 0, true);
+                }
+            }
+            at = text.indexOf("public " + call.substring(0, call.indexOf('(') + 1), Math.max(at, 0));
+            DUE.is("in its place: " + call, at >= 0, true);
+        }
+    }
+
+    /** The line that ends what this line begins. */
+    private static String endOf(String line) {
+        return line.substring(0, line.length() - line.stripLeading().length()) + "}";
+    }
+
+    private static void lengths() throws IOException {
+        String head = "";
+        String end = "";
+        int length = 0;
+        for (String line : Files.readAllLines(SOURCE)) {
+            length++;
+            if (end.isEmpty() && line.matches("(    |        )\\S.*\\) \\{")) {
+                head = line;
+                end = endOf(line);
+                length = 1;
+            } else if (!end.isEmpty() && line.equals(end)) {
+                DUE.is("at most sixty lines: " + head, length <= 60, true);
+                end = "";
+            }
+        }
+    }
+
     /** Nothing may be made after the constructor, so the word new stands in constructors alone. */
     private static void room() throws IOException {
         String end = "";
-        for (String line : Files.readAllLines(Path.of("src/main/java/LikeNets.java"))) {
+        for (String line : Files.readAllLines(SOURCE)) {
             if (line.matches("\\s+(public )?[A-Z][A-Za-z]*\\(\\) \\{")) {
-                end = line.substring(0, line.length() - line.stripLeading().length()) + "}";
+                end = endOf(line);
             } else if (line.equals(end)) {
                 end = "";
             }
